@@ -230,7 +230,14 @@ public final class PromiseTest {
         due("both lodge", y.person(0, 3), 3);
         due("hungry now", y.person(0, 4), 1);
         due("not hungry", y.person(1, 4), 0);
-        due("as much as there is", laid("p0,2,0;p0,2,3;n3,3;c0,1,0;", 2).person(1, 4), 0);
+        LodgingNames z = laid("p0,2,0;p0,2,3;n3,3;c0,1,0;", 2);
+        z.pass(1);
+        due("it lodges", z.person(1, 3), 1);
+        due("as much as there is", z.person(1, 4), 0);
+        due("person(1, 5)", z.person(1, 5), BAD);
+        due("person(1, -1)", z.person(1, -1), BAD);
+        due("name(0, 2)", z.name(0, 2), BAD);
+        due("name(0, -1)", z.name(0, -1), BAD);
     }
 
     private static void stoutAndCalls() {
@@ -513,7 +520,12 @@ public final class PromiseTest {
         // Nine stout, it would not leave soon: 1 said of him drives it out; by 1 before by 2.
         due("one more unkind", x.out(0, 0, 1, 0), 1);
         due("taken up", x.out(0, 0, 1, 1), 11);
-        due("nobody else to call a plain one", alone(), NONE);
+        due("none can drive it out in time", alone(), NONE);
+        // The first one's first name; a plain one who is called it by nobody else.
+        LodgingNames y = laid("p0,0,0;p0,1,30;n3,0;n2,0;c0,1,0;", 2);
+        due("by 0, name 0", y.out(1, 0, 20, 1), 0);
+        due("twenty days", y.out(1, 0, 20, 0), 1);
+        due("none beyond the first", y.out(1, 0, 20, 2), NONE);
     }
 
     private static int alone() {
@@ -530,6 +542,18 @@ public final class PromiseTest {
         due("two words", x.out(0, 0, 1, 0), 2);
         due("the first", x.out(0, 0, 1, 1), 10);
         due("the second", x.out(0, 0, 1, 2), 20);
+        LodgingNames z = laid("p0,0,0;p0,2,30;p0,0,0;n3,0;n4,0;n4,0;", 3);
+        z.say(0, 1, 0);
+        z.pass(1);
+        z.say(2, 1, 0);
+        // It is 1 stout, two beds: by 1 and 2 it is driven out: 1 and 2 by the first one.
+        due("two that are taken up", z.out(1, 0, 1, 0), 2);
+        due("0 dropped twice is first", z.out(1, 0, 1, 1), 0);
+        due("by 2, too", z.out(1, 0, 1, 2), 20);
+        z.say(2, 1, 0);
+        z.pass(1);
+        due("2 stout, by 1 and 2", z.out(1, 0, 1, 1), 1);
+        due("of one who calls", z.out(1, 0, 1, 2), 2);
         // Twelve words are there already: it may come to more.
         LodgingNames y = laid("p0,1,30;p0,0,0;p0,0,0;n3,0;n2,0;n9,0;n1,0;n1,0;n1,0;n1,0;n1,0;"
                 + "c1,0,0;c2,0,0;c0,1,0;c0,1,1;c0,1,2;c0,1,3;c0,1,4;c0,1,5;c0,1,6;c0,1,7;c0,2,0;c0,2,1;", 3);
@@ -634,6 +658,11 @@ public final class PromiseTest {
         due("two days from when it is asked", x.said(2, 0), 0);
         x.undo();
         due("so again", x.said(2, 0), 256 + 1);
+        x.forget();
+        x.see(2, 1, 1, 1);
+        due("of 2 by 1", x.said(1, 2), 2);
+        due("of 2 by 0", x.said(0, 2), 2);
+        due("of 0 nothing helps", x.said(1, 0), 0);
     }
 
     private static void whose() {
@@ -706,9 +735,20 @@ public final class PromiseTest {
         due("and not on the second", z.year(0, 2, 1), 1);
         z.pass(3);
         due("only in these days", z.year(0, 1, 1), 1);
+        z.say(1, 0, 0);
+        z.pass(3);
+        due("three so far", z.count(5), 3);
+        due("it is dropped", z.year(0, 1, 1), 0);
+        due("and taken up", z.year(0, 2, 1), 1);
+        due("laid anew", laidAnew(z), 0);
         // The highest z on the highest day: no number runs over.
         due("year(9999, 60, 0)", new LodgingNames().year(9999, 60, 0), new Model().year(9999, 60, 0));
         due("year(9999, 60, 1)", new LodgingNames().year(9999, 60, 1), new Model().year(9999, 60, 1));
+    }
+
+    private static int laidAnew(LodgingNames x) {
+        due("lay()", x.lay(), 2);
+        return x.count(5);
     }
 
     private static void keepAndBack() {
