@@ -400,13 +400,13 @@ public final class LodgingNames {
         }
 
         boolean has(int i, int j, int n) {
-            return (about(j) & bit(i, n)) != 0;
+            return (at(rows, j) & bit(i, n)) != 0;
         }
 
         int total() {
             int many = 0;
             for (int p = 0; p < MOST_PERSONS; p++) {
-                many += Long.bitCount(about(p));
+                many += Long.bitCount(at(rows, p));
             }
             return many;
         }
@@ -416,7 +416,7 @@ public final class LodgingNames {
         }
 
         void flip(int i, int j, int n) {
-            put(rows, j, about(j) ^ bit(i, n));
+            put(rows, j, at(rows, j) ^ bit(i, n));
         }
 
         void clear() {

@@ -96,12 +96,16 @@ public final class FaceTest {
     private static void callsMakeNothing() {
         com.sun.management.ThreadMXBean bean =
                 (com.sun.management.ThreadMXBean) ManagementFactory.getThreadMXBean();
-        LodgingNames x = new LodgingNames();
+        // Ten objects, for one is good for 512 calls only.
+        LodgingNames[] ports = new LodgingNames[10];
+        for (int k = 0; k < ports.length; k++) {
+            ports[k] = new LodgingNames();
+            allCalls(ports[k]);
+        }
         long id = Thread.currentThread().getId();
-        allCalls(x);
         long before = bean.getThreadAllocatedBytes(id);
         for (int k = 0; k < 100; k++) {
-            allCalls(x);
+            allCalls(ports[k % ports.length]);
         }
         long made = bean.getThreadAllocatedBytes(id) - before;
         // One small object a round would be 1600 bytes; the bean itself makes some.

@@ -3,7 +3,9 @@ import java.util.Random;
 /** Runs of calls drawn by written seeds, on the class and on the model at once. */
 public final class ModelTest {
     private static final int RUNS = 3000;
+    // Nothing is promised of later calls; a turn makes so many of them at most.
     private static final int MOST_CALLS = 512;
+    private static final int MOST_AT_ONCE = 4;
 
     private final Random random;
     private final LodgingNames real = new LodgingNames();
@@ -27,7 +29,7 @@ public final class ModelTest {
         if (random.nextInt(5) > 0) {
             layNew();
         }
-        while (calls < MOST_CALLS && !Due.hasFailed()) {
+        while (calls <= MOST_CALLS - MOST_AT_ONCE && !Due.hasFailed()) {
             if (random.nextInt(150) == 0 && calls < 200) {
                 layNew();
             }
@@ -62,11 +64,11 @@ public final class ModelTest {
     }
 
     private int person() {
-        return number(0, Math.max(0, real.count(0) - 1));
+        return number(0, Math.max(0, model.count(0) - 1));
     }
 
     private int name() {
-        return number(0, Math.max(0, real.count(1) - 1));
+        return number(0, Math.max(0, model.count(1) - 1));
     }
 
     private void call() {
@@ -175,7 +177,7 @@ public final class ModelTest {
         int n = name();
         int d = number(1, 20);
         // Mostly what will be so, for else hardly anything that is SEEN would ever hold.
-        int v = random.nextInt(4) > 0 ? Math.max(0, real.behind(d, p, n)) : number(0, 9);
+        int v = random.nextInt(4) > 0 ? Math.max(0, model.behind(d, p, n)) : number(0, 9);
         due("see(" + p + ", " + n + ", " + d + ", " + v + ")", real.see(p, n, d, v), model.see(p, n, d, v));
         callSaid();
     }
